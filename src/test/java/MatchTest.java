@@ -57,6 +57,14 @@ public final class MatchTest {
         Check.isNot(x.hasReview(0));
         x.enter();
         x.begin(0, 1, 600);
+        Raidhall emptied = Play.match(900);
+        Play.passEmpty(emptied, 3);
+        emptied.enter();
+        emptied.begin(0, 1, 900);
+        Check.due(0, () -> emptied.match(4));
+        Play.empty(emptied, 0, 2);
+        Play.fall(emptied, 0);
+        Check.due(0, () -> emptied.match(4));
         Raidhall fresh = Play.match(600);
         for (int side = 0; side < 2; side++) {
             int s = side;

@@ -97,6 +97,12 @@ public final class PadTest {
         fault("raid9;", -1);
         fault("raid0;", -1);
         fault("line@:;", 5);
+        // What the order ahead was does not help one without a word.
+        fault("3@1;", 0);
+        fault("raid1;3;", 6);
+        fault("raid1;ba3;", 8);
+        fault("touch1@1;1@1;", 9);
+        fault("bonus@1;@2;", 8);
     }
 
     private static void fault(String text, int want) {

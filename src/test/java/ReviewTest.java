@@ -115,6 +115,7 @@ public final class ReviewTest {
         Check.isSo(before.replace("true", "?").equals(Play.look(x).replace("true", "?").replace("false", "?")));
         Check.due(0, () -> x.review(0, 2, 0, FALL, -1));
         Check.isNot(x.hasReview(0));
+        Check.isNot(x.hasReview(1));
         Check.refusedAsState(() -> x.review(0, 2, 0, LINE, -1));
         Check.due(-1, () -> x.wouldFall(2, 0, LINE, -1));
     }
@@ -276,6 +277,14 @@ public final class ReviewTest {
         Check.due(0, () -> x.raid(0));
         Check.due(1, () -> x.takeBack(0));
         Check.due(0, () -> x.points(1));
+        Raidhall emptied = Play.match();
+        Play.passEmpty(emptied, 4);
+        Check.due(1, () -> emptied.match(4));
+        emptied.takeBack(3);
+        Check.due(1, () -> emptied.match(1));
+        Check.due(0, () -> emptied.match(4));
+        emptied.takeBack(0);
+        Check.due(0, () -> emptied.match(4));
         Raidhall over = Play.match(300);
         Play.empty(over, 0, 300);
         Check.due(1, () -> over.match(5));
