@@ -72,48 +72,23 @@ final class Play {
         type(hall, text);
     }
 
-    /** All that can be seen of the hall, as a text. */
+    /** What can be seen of the match, as a text. */
     static String look(Raidhall x) {
         StringBuilder seen = new StringBuilder();
-        if (isThere(x)) {
-            for (int what = 0; what < 8; what++) {
-                seen.append(x.match(what)).append(',');
-            }
-            for (int side = 0; side < 2; side++) {
-                seen.append("|").append(x.points(side)).append(x.hasReview(side)).append(x.next(side));
-                for (int i = 0; i < 10; i++) {
-                    seen.append(' ').append(x.player(side, i)).append('/').append(x.out(side, i))
-                            .append('/').append(x.raidPoints(side, i));
-                }
-                int ended = x.match(2) - x.match(3);
-                for (int i = 0; i < ended; i++) {
-                    seen.append(' ').append(x.matAfter(i, side)).append(':').append(x.pointsAfter(i, side));
-                }
-            }
+        for (int what = 0; what < 8; what++) {
+            seen.append(x.match(what)).append(',');
         }
-        seen.append("|").append(x.fault());
-        for (int club = 0; club < 8; club++) {
-            for (int what = 0; what < 7; what++) {
-                seen.append(' ').append(x.club(club, what));
+        int ended = x.match(2) - x.match(3);
+        for (int side = 0; side < 2; side++) {
+            seen.append("|").append(x.points(side)).append(x.hasReview(side)).append(x.next(side));
+            for (int i = 0; i < 10; i++) {
+                seen.append(' ').append(x.player(side, i)).append('/').append(x.out(side, i))
+                        .append('/').append(x.raidPoints(side, i));
             }
-            for (int what = 0; what < 3; what++) {
-                seen.append(' ').append(x.squad(club, what));
-            }
-        }
-        for (int lot = 0; lot < 24; lot++) {
-            for (int what = 0; what < 4; what++) {
-                seen.append(' ').append(x.lot(lot, what));
+            for (int i = 0; i < ended; i++) {
+                seen.append(' ').append(x.matAfter(i, side)).append(':').append(x.pointsAfter(i, side));
             }
         }
         return seen.toString();
-    }
-
-    static boolean isThere(Raidhall x) {
-        try {
-            x.match(0);
-            return true;
-        } catch (IllegalStateException e) {
-            return false;
-        }
     }
 }
