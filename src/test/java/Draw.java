@@ -2,7 +2,7 @@
 final class Draw {
     private static final String[] WORDS = {"raid", "touch", "bonus", "baulk", "back", "fall", "line", "time"};
 
-    private long seed;
+    private final Dice dice;
     private boolean isThere;
     private boolean isRaiding;
     private int events;
@@ -12,23 +12,15 @@ final class Draw {
     private String text = "";
 
     Draw(long seed) {
-        this.seed = seed;
+        dice = new Dice(seed);
     }
 
     private int below(int bound) {
-        seed = seed * 6364136223846793005L + 1442695040888963407L;
-        return (int) ((seed >>> 33) % bound);
+        return dice.below(bound);
     }
 
-    /** Mostly a number in range, at times one beside it. */
     private int about(int bound) {
-        return switch (below(60)) {
-            case 0 -> -1;
-            case 1 -> bound;
-            case 2 -> Integer.MAX_VALUE;
-            case 3 -> Integer.MIN_VALUE;
-            default -> below(bound);
-        };
+        return dice.about(bound);
     }
 
     /** What a call that was answered tells of where the match is, so that the next ones fit. */
@@ -51,7 +43,8 @@ final class Draw {
             case "card", "change" -> events++;
             case "takeBack" -> {
                 isRaiding = false;
-                events -= answer;
+                // run() may have begun raids that are not counted here.
+                events = Math.max(0, events - answer);
             }
             case "call" -> bid = answer - 5;
             case "bid" -> bid = call.args()[1];

@@ -59,7 +59,8 @@ final class Seen {
         }
     }
 
-    private static List<Call> questions() {
+    /** Every call that only asks; the last one, clear(), tells how many signs the pad has. */
+    static List<Call> questions() {
         List<Call> asked = new ArrayList<>();
         addAll(asked, "match", 8);
         for (String ofSide : new String[] {"points", "next", "hasReview"}) {
